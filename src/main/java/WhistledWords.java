@@ -784,24 +784,21 @@ public final class WhistledWords {
             return refuse(MISPLACED);
         }
 
+        /** What is no TOKEN is refused as such, whatever was to stand there. */
         private boolean refuse(int why) {
-            fault = why;
+            fault = kind == BROKEN ? NO_TOKEN : why;
             faultPlace = start;
             return false;
         }
 
-        private boolean refuseToken() {
-            return refuse(kind == BROKEN ? NO_TOKEN : MISPLACED);
-        }
-
         private boolean expect(int wanted) {
             readToken();
-            return kind == wanted || refuseToken();
+            return kind == wanted || refuse(MISPLACED);
         }
 
         private boolean readLine() {
             if (kind != NAME) {
-                return refuseToken();
+                return refuse(MISPLACED);
             }
             if (spells("high")) {
                 return readNumberedLetter(0, HEIGHTS);
@@ -895,7 +892,7 @@ public final class WhistledWords {
                     return true;
                 }
                 if (kind != COMMA) {
-                    return refuseToken();
+                    return refuse(MISPLACED);
                 }
             }
             return refuse(OUT_OF_BOUNDS);

@@ -32,6 +32,7 @@ public final class CallsTest {
     private static void call() {
         WhistledWords x = gorge();
         Due.is(23, "first", x.call(3, 5, 0, 0, 0, NONE), 0);
+        Due.is(23, "ahead of the first", x.call(3, 4, 0, 0, 0, NONE), STATE);
         Due.is(23, "same time", x.call(3, 5, 0, 0, 0, 0), 1);
         Due.is(23, "a repeat of a repeat", x.call(3, 5, 0, 0, 0, 1), BAD);
         Due.is(23, "of another place", x.call(3, 5, 1, 0, 0, 0), BAD);
@@ -72,6 +73,9 @@ public final class CallsTest {
         Due.is(23, "BAD ahead of FULL", x.call(1, 1, 0, 0, 0, 1), BAD);
         Due.is(34, "calls", x.count(5), 30);
         Due.is(27, "all of them", x.knows(0, 0, 1, 1), 7);
+        Due.is(28, "none of them", x.since(0, 1, 3), NONE);
+        Due.is(24, "the last", x.callOf(29, 4), 2);
+        Due.is(24, "beyond the last", x.callOf(30, 4), BAD);
     }
 
     private static void callOf() {
@@ -90,12 +94,14 @@ public final class CallsTest {
         Due.is(24, "its repeat", x.callOf(1, 6), 1);
         Due.is(24, "another", x.callOf(2, 6), 0);
         Due.is(24, "it is heard still", x.callOf(0, 7), 3);
+        x.call(8, 4, 1, 0, 0, NONE);
+        Due.is(24, "PLACES 0 and 2 are SURE", x.callOf(3, 8), 2);
         x.place(99, 99, 50);
         Due.is(24, "another place, too far", x.callOf(0, 7), 3);
         x.place(0, 0, 50);
         Due.is(24, "another place, near", x.callOf(0, 7), 4);
         Due.is(24, "another place, near", x.callOf(0, 8), 3);
-        Due.is(24, "no call", x.callOf(3, 0), BAD);
+        Due.is(24, "no call", x.callOf(4, 0), BAD);
         Due.is(24, "what 9", x.callOf(0, 9), BAD);
         for (int n : EXTREMES) {
             Due.is(24, "call " + n, x.callOf(n, 0), BAD);

@@ -8,6 +8,7 @@ public final class ChildrenTest {
         learn();
         childOf();
         confusion();
+        oneWord();
         lessons();
         count();
         Due.finish();
@@ -102,6 +103,15 @@ public final class ChildrenTest {
         Due.is(32, "the chain is cut", x.childOf(0, 13), 1);
         Due.is(32, "the chain is cut", x.childOf(0, 12), 0);
         Due.is(33, "the chain is cut", x.lessons(0, 0), 2);
+    }
+
+    private static void oneWord() {
+        WhistledWords x = Due.speaking("mute m;word m;ask 0;");
+        x.child();
+        Due.is(32, "one WORD, groups", x.childOf(0, 2), 1);
+        Due.is(32, "one WORD, greatest", x.childOf(0, 3), 1);
+        Due.is(32, "one WORD, its group", x.childOf(0, 10), 0);
+        Due.is(33, "one WORD", x.lessons(0, 0), 0);
     }
 
     private static void lessons() {

@@ -60,6 +60,11 @@ public final class LandTest {
         Due.is(17, "a new one", x.sheet(0, 0, 7), 1);
         Due.is(19, "CELLS are 0 anew", x.wind(5, 0), 0);
         Due.is(18, "cell 7", x.lay(0, 7, 2), -12);
+        x.lay(0, 0, 1);
+        x.lay(0, 6, 1);
+        Due.is(17, "a new one", x.sheet(0, 0, 7), 1);
+        Due.is(19, "the first CELL is 0 anew", x.wind(0, 0), 0);
+        Due.is(19, "the last CELL is 0 anew", x.wind(6, 0), 0);
         Due.is(17, "of no cells", x.sheet(0, 2, 0), 1);
         Due.is(34, "of no cells", x.count(9), 0);
         Due.is(18, "of no cells", x.lay(0, 0, 0), -12);

@@ -134,6 +134,8 @@ public final class TongueTest {
         fault("high a /;", 1, 7);
         fault("high a :;", 1, 7);
         fault("low a;", 2, 0);
+        fault("bigh a 3;", 2, 0);
+        fault("higi a 3;", 2, 0);
         fault("hig h 3;", 2, 0);
         fault("highh 3;", 2, 0);
         fault("3;", 2, 0);
@@ -421,6 +423,19 @@ public final class TongueTest {
         Due.is(12, "an INT that is no MARK", x.means(1, 0, 2, 2, 0, 1), 0);
         x.lay(0, 0, 256 + 4);
         Due.is(12, "a BYTE keeps its lowest bits", x.means(1, 0, 0, 0, 0, 1), 8);
+        // 36 is 4 and 32, which must not be taken for MARKS 4 and 0; -1 must not be taken for no MARK.
+        WhistledWords z = Due.speaking("mute m;high a 4;high o 0;word ao;word m;word o;word a;ask 0,1,2,3;");
+        z.sheet(0, 2, 8);
+        z.lay(0, 0, 36);
+        Due.is(12, "36", z.means(0, 0, 0, 2, 0, 1), 0);
+        Due.is(12, "MARK 0", z.means(0, 0, 0, 2, 1, 1), 4);
+        z.lay(0, 0, 4);
+        Due.is(12, "MARKS 4 and 0", z.means(0, 0, 0, 2, 0, 2), 1);
+        z.lay(0, 1, -1);
+        Due.is(12, "-1", z.means(0, 0, 0, 2, 1, 1), 0);
+        Due.is(12, "4 and -1", z.means(0, 0, 0, 2, 0, 2), 0);
+        z.lay(0, 1, Integer.MIN_VALUE);
+        Due.is(12, "4 and the least", z.means(0, 0, 0, 2, 0, 2), 0);
         WhistledWords y = Due.speaking("mute m;high a 3;word m;word mm;word a;ask 0,2;ask 1,0;");
         y.sheet(3, 1, 0);
         Due.is(12, "the empty row", y.means(0, 0, 3, 1, 0, 0), 1);
@@ -455,6 +470,7 @@ public final class TongueTest {
             Due.is(14, "ask " + n, x.sure(n, 0), BAD);
             Due.is(14, "word " + n, x.sure(0, n), BAD);
         }
+        Due.is(14, "ia among 1", x.sure(1, 6), 0);
         Due.is(14, "alone", Due.speaking("mute m;word m;ask 0;").sure(0, 0), 5);
     }
 }
