@@ -119,7 +119,7 @@ public final class WhistledWords {
 
     public int cut(int ask, int blur, int what) {
         boolean ofAll = ask == NONE;
-        if (!ofAll && !told.isAsk(ask) || !isBlur(blur)) {
+        if ((!ofAll && !told.isAsk(ask)) || !isBlur(blur)) {
             return BAD;
         }
         int among = ofAll ? told.allWords() : told.asks[ask];
@@ -247,7 +247,7 @@ public final class WhistledWords {
         if (!land.isPlace(a) || !land.isPlace(b) || a == b || !isHour(hour)) {
             return BAD;
         }
-        if (what < 0 || what > 1 && what < 10) {
+        if (what < 0 || (what > 1 && what < 10)) {
             return BAD;
         }
         if (!land.findWay(a, b, hour)) {
