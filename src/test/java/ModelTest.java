@@ -373,7 +373,8 @@ public final class ModelTest {
 
     /** A WORD's own row is laid on a SHEET, so that it MEANS something. */
     private static void hearing(int ask, int w, int blur) {
-        if (model.blurred(w, blur, 0) == Model.BAD) {
+        // It takes a sheet, up to eight lays and the question.
+        if (model.blurred(w, blur, 0) == Model.BAD || callsLeft < 10) {
             return;
         }
         int lane = below(3);
