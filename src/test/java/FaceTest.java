@@ -6,13 +6,16 @@ import java.lang.reflect.Modifier;
 import java.nio.file.Files;
 import java.nio.file.Path;
 import java.util.Arrays;
+import java.util.Map;
 import java.util.Set;
+import java.util.TreeMap;
 import java.util.TreeSet;
 import java.util.regex.Matcher;
 import java.util.regex.Pattern;
 
 /** The public face, and those rules of LANGUAGE.md that can be seen from the text. Runs in the project's folder. */
 public final class FaceTest {
+    private static final Path DOCUMENT = Path.of("../shared/DOC.md");
     private static final Path PROGRAM = Path.of("src/main/java/WhistledWords.java");
     private static final String[] FACE = {
         "feed(long)", "end(int)", "tongue()", "fault()", "word(int,int)", "ask(int,int)", "blurred(int,int,int)",
@@ -33,6 +36,8 @@ public final class FaceTest {
         forbidden(text);
         methods(text);
         nested();
+        depth(text);
+        asTheDocumentWrites(Files.readString(PROGRAM));
         Due.finish();
     }
 
@@ -120,6 +125,62 @@ public final class FaceTest {
             }
             Due.that(name + " has at most sixty lines", length <= 60 || !line.matches("^ {4}(?: {4})?}$"));
             Due.that(name + " makes nothing: " + line.trim(), maker || !line.matches(".*\\bnew\\b.*"));
+        }
+    }
+
+    /** Names of methods are told apart by nothing but themselves here, which can only make a chain of calls longer. */
+    private static void depth(String text) {
+        Map<String, Set<String>> called = new TreeMap<>();
+        Matcher heads = Pattern.compile("(?m)^( {4}| {8})(?:[\\w\\[\\]]+ )+(\\w+)\\([^)]*\\) \\{$(?s:(.*?))\n\\1}$").matcher(text);
+        while (heads.find()) {
+            if (!heads.group(2).matches("[A-Z]\\w*")) {
+                Set<String> names = called.computeIfAbsent(heads.group(2), name -> new TreeSet<>());
+                Matcher calls = Pattern.compile("\\b(\\w+)\\(").matcher(heads.group(3));
+                while (calls.find()) {
+                    names.add(calls.group(1));
+                }
+            }
+        }
+        Due.that("the methods are found: " + called.size(), called.size() > 100 && called.containsKey("isOneWord"));
+        for (String name : called.keySet()) {
+            int deep = depthOf(name, called, 0);
+            Due.that(name + " goes at most eight deep, and never back into itself: " + deep, deep <= 8);
+        }
+    }
+
+    private static int depthOf(String name, Map<String, Set<String>> called, int above) {
+        int most = 0;
+        if (above <= 20) {
+            for (String next : called.getOrDefault(name, Set.of())) {
+                most = Math.max(most, called.containsKey(next) ? depthOf(next, called, above + 1) : 0);
+            }
+        }
+        return most + 1;
+    }
+
+    /** The face, with the names of the parameters, and what the interface says ahead of the calls. */
+    private static void asTheDocumentWrites(String program) throws IOException {
+        if (!Files.exists(DOCUMENT)) {
+            System.out.println("there is no " + DOCUMENT + ": the face is not looked up");
+            return;
+        }
+        String document = Files.readString(DOCUMENT);
+        Matcher lines = Pattern.compile("(?m)^ {4}(public .*);$").matcher(document);
+        int found = 0;
+        while (lines.find()) {
+            boolean call = lines.group(1).endsWith(")");
+            Due.that("the program has: " + lines.group(1), program.contains("\n    " + lines.group(1) + (call ? " {" : ";")));
+            found++;
+        }
+        Due.is(0, "lines of the face", found, FACE.length + 2);
+        Matcher parts = Pattern.compile("Ahead of the calls (.*) the interface says: (---- [a-z ]*)\\.").matcher(document);
+        while (parts.find()) {
+            int at = program.indexOf("    // " + parts.group(2) + "\n");
+            int end = program.indexOf("    // ----", at + 1);
+            String part = at < 0 ? "" : program.substring(at, end < 0 ? program.length() : end);
+            for (String name : parts.group(1).split("[`, ]+")) {
+                Due.that(name + " stands behind " + parts.group(2), name.isEmpty() || part.contains("public int " + name + "("));
+            }
         }
     }
 }
